@@ -399,6 +399,8 @@ public final class PromisesTest {
         due("soup(0, 0)", x.soup(0, 0), 7);
         due("soup(1, 0)", x.soup(1, 0), 2);
         due("soup(0, 1)", x.soup(0, 1), -1);
+        due("soup, the most", village("p50", "090d0").soup(0, 0), 9);
+        due("soup, the least", village("p50", "010d0").soup(0, 0), 1);
         due("soup changes nothing", x.house(0, 1), 5);
         x.set(1, 1);
         due("soup of an empty house", x.soup(0, 0), -1);
@@ -448,6 +450,9 @@ public final class PromisesTest {
         x.lay(0, 2, 0, 8);
         x.forget();
         due("read(0) of no such house", x.read(0), 0);
+        x.sheet(0, 2, 2);
+        due("read(0) of just one", x.read(0), 1);
+        x.forget();
         x.sheet(3, 0, 60);
         due("read(3) 8 at most", x.read(3), 8);
         due("count(7) 8 at most", x.count(7), 8);
@@ -480,6 +485,14 @@ public final class PromisesTest {
         due("ask() of no houses", x.ask(), -1);
         x.forget();
         due("twice() of no houses", x.twice(), 7);
+        x.undo(0);
+        x.sheet(0, 1, 4);
+        int[] told = {0, 9, 1, 12};
+        for (int i = 0; i < 4; i++) {
+            x.lay(0, 1, i, told[i]);
+        }
+        due("read(0)", x.read(0), 2);
+        due("twice() of what was read", x.twice(), 2);
         due("began(-1)", x.began(-1), -2);
         due("began(3)", x.began(3), -2);
         due("twice() of no guests", new TurnFeast().twice(), 0);
@@ -504,6 +517,7 @@ public final class PromisesTest {
         roadDue(x, 5, 1, 135, 256);
         roadDue(village("p10", ""), 5, 0, 1, 1);
         roadDue(village("p10", ""), 5, 1, 0, 1);
+        roadDue(village("p40;p10", "040d0;040d0;041d0"), 8, 4, 3, 4);
         TurnFeast eight = village("s90;p90", "990d0;990d0;990d0;990d0;990d0;990d0;990d0;990d0");
         roadDue(eight, 1, 1, 1732076671L, 4294967296L);
         due("most of all", eight.road(1, 1, 88, 0), 1);
