@@ -286,6 +286,10 @@ public final class ChanceBoundsTest {
         two.seen(1, 7);
         Check.due("those alone who may have come TWICE", two.twice(), 3);
         Check.due("and they give alike", two.ask(), 0);
+        TurnFeast apart = Check.village("p30;p90", "040d0;020d0;050d0");
+        apart.seen(0, 11);
+        Check.due("the first and the third", apart.twice(), 5);
+        Check.due("two alike, or one and one", apart.ask(), 1);
         Check.told("Part 4", "of like ones the least");
         Check.due("one GUEST", Check.village(ONES, "990d0").ask(), 0);
         Check.due("eight alike", Check.village(ONES, EIGHT_ALIKE).ask(), 0);
@@ -408,6 +412,15 @@ public final class ChanceBoundsTest {
         return sum;
     }
 
+    /** How often the first of m comes; he is the one who sleeps nowhere. */
+    private static int firstLots(int seed, int n, int m) {
+        int first = 0;
+        for (int k = 1; k <= n; k++) {
+            first += lotsInAll(seed, k, m) - lotsInAll(seed, k - 1, m) == 1 ? 1 : 0;
+        }
+        return first;
+    }
+
     private static void season() {
         Check.told("Part 4", "SEASON by a SEED: n times (1 to 99) a LOT of GUESTS comes");
         TurnFeast one = Check.village("s90;p90", "990d0");
@@ -420,6 +433,12 @@ public final class ChanceBoundsTest {
         Check.due("by one who eats nothing", Check.village("p10", "000d0").season(3, 99, 0, 0), 0);
         Check.due("no tale of one without HUNGER", Check.village("p10", "000d0").season(3, 99, 0, 1), 0);
         Check.due("an EMPTY house", Check.village("p10", "010d0", 0, 1).season(3, 99, 0, 0), 0);
+        TurnFeast some = Check.village("p30;p10", "990d0;030d0;040d0");
+        Check.due("no tale by the first LOT of 0", some.season(0, 1, 0, 1), 0);
+        Check.due("a tale by the second GUEST", some.season(-1, 1, 0, 1), 1);
+        Check.due("it is not the other house's", some.season(-1, 1, 1, 1), 0);
+        Check.due("all tales are of one house or the other or none",
+            some.season(5, 99, 0, 1) + some.season(5, 99, 1, 1) + firstLots(5, 99, 3), 99);
         Check.told("Part 4", "(no LOTS where there are none)");
         TurnFeast none = Check.village(ONES, "");
         for (int h = 0; h < 8; h++) {

@@ -95,6 +95,10 @@ public final class PlanBoundsTest {
         cookDue("behind another sweet", Check.village("w10;p10", "060d0"), 1, 2, 1);
         cookDue("by more than one GUEST", Check.village("p50", "060d0;050d0;990d0"), 0, 2, 15);
         cookDue("TURNED", Check.village("p10;p10", "030d0", 1, 0), 0, 2, 1);
+        TurnFeast planned = Check.village("p50;p50", "060d0");
+        liveDue("less elsewhere", planned, 0, 1, 1);
+        cookDue("behind LIVE, by which it gave less", planned, 0, 2, 5);
+        liveDue("and LIVE again", planned, 0, 1, 1);
         cookDue("of house 7", Check.village(ONES, "027d0"), 7, 2, 1);
     }
 

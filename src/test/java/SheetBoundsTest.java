@@ -21,6 +21,7 @@ public final class SheetBoundsTest {
         counts();
         countCalls();
         digest();
+        digestOfParts();
         Check.end();
     }
 
@@ -473,5 +474,50 @@ public final class SheetBoundsTest {
         Check.due("as it was", alike.digest(), plain);
         Check.changesNothing("digest()", Check::busy, TurnFeast::digest);
         Check.changesNothing("digest() of eight", Check::full, TurnFeast::digest);
+    }
+
+    private static void digestOfParts() {
+        Check.told("Promise 35", "of houses .. (as these are told), .. of GUESTS .. of houses gives(the GUEST, it)");
+        Check.due("of a busy one", Check.busy().digest(), ofParts(Check.busy()));
+        Check.due("of a full one", Check.full().digest(), ofParts(Check.full()));
+        Check.due("without GUESTS", Check.village(ONES, "").digest(), ofParts(Check.village(ONES, "")));
+        Check.due("TURNED", Check.village(ONES, "070d0;077u0", 1, 9).digest(), ofParts(Check.village(ONES, "070d0;077u0", 1, 9)));
+        Check.due("COOK 2, LIVE 1", Check.village("p80;p50", "090d0;030d0").digest(),
+            ofParts(Check.village("p80;p50", "090d0;030d0")));
+        Check.due("FAST of more than none", Check.village(ONES, "010d0").digest(), ofParts(Check.village(ONES, "010d0")));
+        Check.due("8, 9 and 10 given", Check.village("p80;p90;s90;p80", "990d0;000d0").digest(),
+            ofParts(Check.village("p80;p90;s90;p80", "990d0;000d0")));
+    }
+
+    private static long ofParts(TurnFeast x) {
+        long h = 17;
+        for (int what = 0; what <= 7; what++) {
+            h = 31 * h + x.count(what);
+        }
+        h = 31 * h + x.fault(0);
+        h = 31 * h + x.fault(1);
+        for (int it = 0; it < x.count(0); it++) {
+            long[] each = {x.house(it, 0), x.house(it, 1), x.house(it, 2), x.at(it), x.all(it, 0), x.all(it, 1),
+                x.price(it), x.live(it, 0), x.live(it, 1), x.cook(it, 0), x.cook(it, 1), x.fast(it, 0, 0),
+                x.fast(it, 0, 1), x.soup(it, 0), x.road(5, it, 9, 0), x.road(5, it, 9, 1), x.season(7, 30, it, 0),
+                x.season(7, 30, it, 1)};
+            for (long v : each) {
+                h = 31 * h + v;
+            }
+        }
+        for (int g = 0; g < x.count(1); g++) {
+            for (int what = 0; what < 8; what++) {
+                h = 31 * h + (what < 4 ? x.guest(g, what) : x.fed(g, what - 4));
+            }
+            h = 31 * h + x.began(g);
+            for (int it = 0; it < x.count(0); it++) {
+                h = 31 * h + x.gives(g, it);
+            }
+        }
+        long[] last = {x.poor(), x.passed(), x.twice(), x.ask()};
+        for (long v : last) {
+            h = 31 * h + v;
+        }
+        return h;
     }
 }
